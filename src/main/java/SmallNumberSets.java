@@ -500,21 +500,17 @@ public final class SmallNumberSets {
             }
             int left = rank;
             for (int place = 0; place < words.length; place++) {
-                int here = Long.bitCount(word(place));
+                long word = word(place);
+                int here = Long.bitCount(word);
                 if (left < here) {
-                    return place * 64 + bitAt(word(place), left);
+                    for (int i = 0; i < left; i++) {
+                        word &= word - 1L;
+                    }
+                    return place * 64 + Word.least(word);
                 }
                 left -= here;
             }
             return NONE;
-        }
-
-        private static int bitAt(long word, int rank) {
-            long left = word;
-            for (int i = 0; i < rank; i++) {
-                left &= left - 1L;
-            }
-            return Word.least(left);
         }
     }
 
@@ -625,7 +621,7 @@ public final class SmallNumberSets {
 
         /** How many members the bucket with this separator has. */
         int membersFrom(int separator) {
-            int next = separatorAt(bucketHolding(separator) + 1);
+            int next = separators.numberAt(separators.countBelow(separator + 1));
             int end = next == NONE ? NUMBERS : next;
             return members.countBelow(end) - members.countBelow(separator);
         }
