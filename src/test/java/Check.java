@@ -4,8 +4,22 @@ final class Check {
         void run();
     }
 
+    private static final int TOLD_MOST = 10;
+
     private int wrong = 0;
+    private int told = 0;
     private int compared = 0;
+    private String sentence = "";
+
+    /** What is compared from here on is told with this sentence. */
+    void under(String text) {
+        sentence = "[" + text + "] ";
+        told = 0;
+    }
+
+    int compared() {
+        return compared;
+    }
 
     void same(String what, Object got, Object due) {
         compared++;
@@ -29,8 +43,9 @@ final class Check {
 
     private void tell(String text) {
         wrong++;
-        if (wrong <= 40) {
-            System.out.println(text);
+        told++;
+        if (told <= TOLD_MOST) {
+            System.out.println(sentence + text);
         }
     }
 

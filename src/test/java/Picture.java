@@ -12,10 +12,7 @@ final class Picture {
     }
 
     static String of(SmallNumberSets x, int set) {
-        StringBuilder text = new StringBuilder("members");
-        for (int place = 0; place < x.size(set); place++) {
-            text.append(' ').append(x.select(set, place));
-        }
+        StringBuilder text = new StringBuilder("members ").append(members(x, set));
         text.append(" trees ").append(x.trees(set)).append(" clusters");
         for (int cluster = 0; cluster < 64; cluster++) {
             text.append(' ').append(x.clusterMinimum(set, cluster));
@@ -25,10 +22,27 @@ final class Picture {
         for (int level = 0; level <= 12; level++) {
             text.append(' ').append(x.prefixes(set, level));
         }
-        text.append(" buckets");
-        for (int bucket = 0; bucket < x.buckets(set); bucket++) {
-            text.append(' ').append(x.separator(set, bucket)).append(':').append(x.bucketSize(set, bucket));
+        return text.append(" buckets ").append(buckets(x, set)).append('\n').toString();
+    }
+
+    /** The members in rising order: "10 20 30". */
+    static String members(SmallNumberSets x, int set) {
+        StringBuilder text = new StringBuilder();
+        int size = x.size(set);
+        for (int place = 0; place < size; place++) {
+            text.append(place == 0 ? "" : " ").append(x.select(set, place));
         }
-        return text.append('\n').toString();
+        return text.toString();
+    }
+
+    /** The buckets, each as separator:size: "0:4 50:5". */
+    static String buckets(SmallNumberSets x, int set) {
+        StringBuilder text = new StringBuilder();
+        int count = x.buckets(set);
+        for (int bucket = 0; bucket < count; bucket++) {
+            text.append(bucket == 0 ? "" : " ").append(x.separator(set, bucket));
+            text.append(':').append(x.bucketSize(set, bucket));
+        }
+        return text.toString();
     }
 }

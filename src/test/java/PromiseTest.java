@@ -92,15 +92,6 @@ public final class PromiseTest {
         same(what + " threw and changed", Picture.of(x), before);
     }
 
-    private static String sizes(SmallNumberSets x, int set) {
-        StringBuilder text = new StringBuilder();
-        for (int bucket = 0; bucket < x.buckets(set); bucket++) {
-            text.append(bucket == 0 ? "" : " ").append(x.separator(set, bucket));
-            text.append(':').append(x.bucketSize(set, bucket));
-        }
-        return text.toString();
-    }
-
     // ---- promise 1
 
     private static void newObject() {
@@ -109,7 +100,7 @@ public final class PromiseTest {
             same("new size", x.size(set), 0);
             same("new trees", x.trees(set), 0);
             same("new prefixes 0", x.prefixes(set, 0), 0);
-            same("new buckets", sizes(x, set), "0:0");
+            same("new buckets", Picture.buckets(x, set), "0:0");
             same("new successor", x.successor(set, 0), SmallNumberSets.NONE);
         }
         SmallNumberSets other = new SmallNumberSets();
@@ -146,7 +137,7 @@ public final class PromiseTest {
         same("last of it", x.contains(0, 4095), true);
         same("range of thirty", x.insertRange(2, 4066, 1, 30), 30);
         same("again", x.insertRange(2, 4066, 1, 30), 0);
-        same("thirty in rising order", sizes(x, 2),
+        same("thirty in rising order", Picture.buckets(x, 2),
                 "0:4 4070:4 4074:4 4078:4 4082:4 4086:4 4090:6");
     }
 
@@ -186,7 +177,7 @@ public final class PromiseTest {
         refusesSets("insertAll other", x, set -> x.insertAll(1, set));
         x.insertRange(2, 100, 7, 30);
         same("thirty members", x.insertAll(1, 2), 30);
-        same("rising order", sizes(x, 1), "0:4 107:4 135:4 163:4 191:4 219:4 247:4 275:5");
+        same("rising order", Picture.buckets(x, 1), "0:4 107:4 135:4 163:4 191:4 219:4 247:4 275:5");
         same("thirty members of itself", x.insertAll(2, 2), 0);
         x.insert(2, 101);
         String full = Picture.of(x);
@@ -230,7 +221,7 @@ public final class PromiseTest {
         for (int i = 1; i <= 3; i++) {
             same("pollFirst", y.pollFirst(0), 10 * i);
         }
-        same("the first bucket is merged", sizes(y, 0), "0:6");
+        same("the first bucket is merged", Picture.buckets(y, 0), "0:6");
     }
 
     private static void pollLast() {
@@ -249,7 +240,7 @@ public final class PromiseTest {
         for (int i = 9; i >= 6; i--) {
             same("pollLast", y.pollLast(0), 10 * i);
         }
-        same("the last bucket is merged", sizes(y, 0), "0:5");
+        same("the last bucket is merged", Picture.buckets(y, 0), "0:5");
     }
 
     private static void clear() {
@@ -449,7 +440,7 @@ public final class PromiseTest {
         same("eight members", x.buckets(1), 1);
         x.insert(1, 55);
         same("nine members", x.buckets(1), 2);
-        same("four stay", sizes(x, 1), "0:4 50:5");
+        same("four stay", Picture.buckets(x, 1), "0:4 50:5");
         refusesSets("buckets", x, x::buckets);
     }
 
@@ -458,35 +449,35 @@ public final class PromiseTest {
         x.insertRange(1, 10, 10, 9);
         x.delete(1, 10);
         x.delete(1, 20);
-        same("two members are enough", sizes(x, 1), "0:2 50:5");
+        same("two members are enough", Picture.buckets(x, 1), "0:2 50:5");
         x.delete(1, 35);
-        same("no member taken out", sizes(x, 1), "0:2 50:5");
+        same("no member taken out", Picture.buckets(x, 1), "0:2 50:5");
         x.insertRange(1, 51, 1, 3);
         x.delete(1, 30);
-        same("merged with the one behind and split", sizes(x, 1), "0:4 53:5");
+        same("merged with the one behind and split", Picture.buckets(x, 1), "0:4 53:5");
         x.insertRange(1, 100, 1, 4);
-        same("three", sizes(x, 1), "0:4 53:4 90:5");
+        same("three", Picture.buckets(x, 1), "0:4 53:4 90:5");
         x.delete(1, 53);
         x.delete(1, 60);
         x.delete(1, 70);
-        same("a middle one with the one behind", sizes(x, 1), "0:4 53:6");
+        same("a middle one with the one behind", Picture.buckets(x, 1), "0:4 53:6");
         for (int number : new int[] {80, 90, 100, 101}) {
             x.delete(1, number);
         }
-        same("the separator stays when its number goes", sizes(x, 1), "0:4 53:2");
+        same("the separator stays when its number goes", Picture.buckets(x, 1), "0:4 53:2");
         x.delete(1, 103);
-        same("the last with the one ahead", sizes(x, 1), "0:5");
+        same("the last with the one ahead", Picture.buckets(x, 1), "0:5");
         for (int number : new int[] {40, 50, 51, 52, 102}) {
             x.delete(1, number);
         }
-        same("one bucket may be empty", sizes(x, 1), "0:0");
+        same("one bucket may be empty", Picture.buckets(x, 1), "0:0");
         SmallNumberSets y = new SmallNumberSets();
         y.insertRange(0, 10, 10, 9);
         y.insertRange(0, 1, 1, 4);
         for (int i = 0; i < 4; i++) {
             y.pollLast(0);
         }
-        same("the last with a full one ahead", sizes(y, 0), "0:4 10:5");
+        same("the last with a full one ahead", Picture.buckets(y, 0), "0:4 10:5");
     }
 
     private static void separator() {
